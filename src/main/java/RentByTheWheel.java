@@ -1428,8 +1428,10 @@ public final class RentByTheWheel {
             }
             int place = i * (trial.room + 1) + level;
             if (costs[place] == UNKNOWN) {
-                int least = NEVER;
-                for (int who = NONE; who < MOST_LODGERS; who++) {
+                int least = costOf(i, level, NONE);
+                // treading costs something by itself: it need not be tried where nobody costs no more than that
+                int treading = nobodyDry ? TRODDEN : 1;
+                for (int who = 0; who < MOST_LODGERS && least > treading; who++) {
                     least = Math.min(least, costOf(i, level, who));
                 }
                 costs[place] = least;

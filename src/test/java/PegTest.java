@@ -97,6 +97,7 @@ public final class PegTest {
         Check.due("b did", x, x.braked(3, 3), 1, 2, 2);
         Check.due("both did", x, x.braked(3, 0), 1, 3, 3);
         Check.due("it can't be", x, x.braked(3, 5), 0, -1, 0);
+        Check.due("999 neither", x, x.braked(3, 999), 0, -1, 0);
         Check.due("b alone", x, x.braked(2, 11), 1, 0, 0);
         Check.due("b alone did", x, x.braked(2, 0), 1, 2, 2);
         int[][] wrong = {{7, 1}, {0, 1}, {8, 1}, {-1, 1}, {9, 1}, {3, -1}, {3, 1000}};

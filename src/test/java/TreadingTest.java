@@ -72,6 +72,15 @@ public final class TreadingTest {
         Check.due("enough is there", x, x.driest(7, 5), 0, -1, -1, -1, -1, -1);
         RentByTheWheel y = new RentByTheWheel();
         Check.due("nobody is there", y, y.driest(0, 1), 0, -1);
+        // a pail in each QUARTER, and one lifts just that
+        RentByTheWheel z = Check.with("011:1");
+        Check.rule(z, "1");
+        Check.due("12 QUARTERS", z, z.driest(1, 12), 0, 0, 0, 0, 0, 0, 0, 0, 0, 0, 0, 0, 0);
+        Check.due("12 QUARTERS, nobody DRY", z, z.fewest(1, 12), 12, 0, 0, 0, 0, 0, 0, 0, 0, 0, 0, 0, 0);
+        z.set(0, 999);
+        z.set(2, 999);
+        Check.due("a full CISTERN", z, z.driest(1, 12), 0, -1, -1, -1, -1, -1, -1, -1, -1, -1, -1, -1, -1);
+        Check.due("a full CISTERN, nobody DRY", z, z.fewest(1, 12), 0, -1, -1, -1, -1, -1, -1, -1, -1, -1, -1, -1, -1);
     }
 
     private static void pays() {
@@ -97,6 +106,22 @@ public final class TreadingTest {
         y.set(1, 9);
         Check.day(y, "............");
         Check.due("b owes 36 and will owe more", y, y.pays(2), -2, 0, 0, 0);
+        y.set(1, 0);
+        Check.due("b owes 36 and no more", y, y.pays(2), 36, 36);
+        y.set(1, 1);
+        Check.day(y, "............");
+        // b owes 40 (9 times 4, and 4), a 10
+        y.set(1, 0);
+        Check.due("just 40", y, y.pays(2), 40, 40);
+        Check.due("50 are not in 40", y, y.pays(3), -2, 40);
+        y.set(1, 1);
+        Check.day(y, "bbb............b........");
+        // b owes 40 + 8 - 4 = 44, a 12
+        y.set(1, 0);
+        Check.day(y, "bbb");
+        Check.due("41 are not in 40", y, y.pays(2), -2, 0, 0, 0);
+        Check.day(y, "b");
+        Check.due("40 are", y, y.pays(2), 40, 40);
     }
 
     private static void strongest() {
@@ -217,6 +242,8 @@ public final class TreadingTest {
         Check.due("none but 0", y, y.fairdue(), 0, 0);
         RentByTheWheel z = Check.with("091:0");
         Check.due("9", z, z.fairdue(), 9, 1);
+        RentByTheWheel w = Check.with("511:0;511:0");
+        Check.due("1: 6 and 6", w, w.fairdue(), 1, 12);
     }
 
     private static void ahead() {
@@ -238,7 +265,9 @@ public final class TreadingTest {
         Check.day(y, "............");
         y.set(1, 0);
         Check.due("it owes now", y.ahead(0), 0);
-        Check.day(y, "aa");
+        Check.day(y, "a");
+        Check.due("it owes 1 now", y.ahead(0), 0);
+        Check.day(y, "a");
         Check.due("it owes 0 now", y.ahead(0), 99);
         RentByTheWheel z = Check.with("091:0");
         for (int i = 0; i < 12; i++) {
