@@ -261,8 +261,7 @@ public final class RentByTheWheel {
         if (!lodgers.hasAll(those) || n < 1 || n > QUARTERS) {
             return NONE;
         }
-        plan.begin(state, those, n, true);
-        int cost = plan.leastFrom(0, state.level);
+        int cost = plan.leastCost(state, those, n, true);
         if (cost >= Plan.NEVER) {
             return NOT_SO;
         }
@@ -274,8 +273,7 @@ public final class RentByTheWheel {
         if (!lodgers.hasAll(those) || n < 1 || n > QUARTERS) {
             return NONE;
         }
-        plan.begin(state, those, n, false);
-        int cost = plan.leastFrom(0, state.level);
+        int cost = plan.leastCost(state, those, n, false);
         plan.tellInto(told, state.level);
         return cost / Plan.DRY;
     }
@@ -495,8 +493,7 @@ public final class RentByTheWheel {
         if (!lodgers.hasAll(those)) {
             return NONE;
         }
-        pairing.begin();
-        pairing.part(those, 0, 0);
+        pairing.partAll(those);
         told.clear();
         for (int i = 0; i < lodgers.many; i++) {
             told.add(pairing.best[i]);
@@ -578,14 +575,12 @@ public final class RentByTheWheel {
         if (worths.k == 0) {
             return NOT_SO;
         }
-        worths.allotAll();
-        worths.found = 0;
-        worths.share(0, n);
+        int rows = worths.countRents(n);
         told.clear();
-        if (worths.found > 0) {
+        if (rows > 0) {
             worths.tellInto(told, worths.leastRents);
         }
-        return worths.found;
+        return rows;
     }
 
     // ---- each as he likes
@@ -1408,7 +1403,7 @@ public final class RentByTheWheel {
             this.wheel = wheel;
         }
 
-        void begin(State from, int byThose, int quarters, boolean nobodyMayBeDry) {
+        int leastCost(State from, int byThose, int quarters, boolean nobodyMayBeDry) {
             if (costs.length == 0) {
                 costs = new int[QUARTERS * (MOST_ROOM + 1)];
             }
@@ -1420,9 +1415,10 @@ public final class RentByTheWheel {
             for (int place = 0; place < n * (from.room + 1) && place < costs.length; place++) {
                 costs[place] = UNKNOWN;
             }
+            return leastFrom(0, from.level);
         }
 
-        int leastFrom(int i, int level) {
+        private int leastFrom(int i, int level) {
             if (i >= n) {
                 return nobodyDry ? MOST_ROOM - level : 0;
             }
@@ -1454,7 +1450,7 @@ public final class RentByTheWheel {
             return Math.min(NEVER, cost + leastFrom(i + 1, trial.level));
         }
 
-        /** The least row of those whose cost is the least. */
+        /** The least row of those whose cost is the least; only behind leastCost(). */
         void tellInto(Row row, int level) {
             row.clear();
             for (int i = 0; i < n; i++) {
@@ -1489,13 +1485,14 @@ public final class RentByTheWheel {
             this.state = state;
         }
 
-        void begin() {
+        void partAll(int those) {
             most = NONE;
             Arrays.fill(mates, NONE);
             Arrays.fill(best, NONE);
+            part(those, 0, 0);
         }
 
-        void part(int free, int sum, int depth) {
+        private void part(int free, int sum, int depth) {
             int one = wheel.house.firstOf(free);
             if (one == NONE || depth >= MOST_LODGERS) {
                 if (sum > most) {
@@ -1529,12 +1526,12 @@ public final class RentByTheWheel {
         /** How many STOREYS; 0: no VALUES were told. */
         int k;
         int most;
-        int found;
         final int[] best = new int[MOST_SIZE];
         final int[] leastRents = new int[MOST_SIZE];
         private final int[] digits = new int[MOST_SIZE * MOST_SIZE];
         private final int[] tried = new int[MOST_SIZE];
         private final int[] asked = new int[MOST_SIZE];
+        private int found;
 
         /** How many rows THE TEXT has, or -1 - p. */
         int sizeOf(Text text) {
@@ -1602,8 +1599,16 @@ public final class RentByTheWheel {
             }
         }
 
-        /** RENTS of STOREYS from one on, so much for them in all; only behind allotAll(). */
-        void share(int storey, int left) {
+        /** Rows of RENTS, n in all, by which nobody wishes another's. */
+        int countRents(int n) {
+            allotAll();
+            found = 0;
+            share(0, n);
+            return found;
+        }
+
+        /** RENTS of STOREYS from one on, so much for them in all. */
+        private void share(int storey, int left) {
             if (storey >= k) {
                 if (left == 0 && nobodyEnvies()) {
                     if (found == 0) {
