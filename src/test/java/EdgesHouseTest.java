@@ -327,6 +327,8 @@ public final class EdgesHouseTest {
         Check.due("the rule stays", x.lifts(0, -1), 30);
         Check.due("39 signs of -, and one thing", Check.rule(x, Edge.times("-", 39) + "t"), 0);
         Check.due("lifts by that", x.lifts(0, -1), 0);
+        Check.due("40 signs, each for itself", Check.rule(x, "-" + Edge.times("1+", 19) + "1"), 0);
+        Check.due("lifts by each of them", x.lifts(0, -1), 18);
         Check.due("16 numbers that wait for one another", Check.rule(x, Edge.times("2<1+3*(", 4) + "2<1+3*7))))"), 0);
         Check.due("lifts by these", x.lifts(0, -1), 1);
     }

@@ -80,6 +80,14 @@ public final class EdgesKeptTest {
         Check.due("again, once more", x.again(0), true);
         Check.same("as they were, once more", Edge.state(x), was);
         Check.due("what is kept can be undone from", x.undo(), -1);
+        RentByTheWheel z = Check.with(Edge.times("011:9;", 5) + "011:9");
+        z.keep(0);
+        Check.day(z, "abcdef");
+        z.again(0);
+        for (int i = 0; i < 6; i++) {
+            Check.due("DEBT of " + i, z.debt(i), 0);
+            Check.due("DRY of " + i, z.lodger(i, 4), 0);
+        }
         RentByTheWheel y = new RentByTheWheel();
         Check.due("of nobody", y.keep(1), true);
         y.quarter(-1, -1);

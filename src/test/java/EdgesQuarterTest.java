@@ -314,6 +314,12 @@ public final class EdgesQuarterTest {
             Check.due("undone in ROOM " + rooms[i], x.count(4), levels[i]);
             Check.due("ROOM stays", x.count(5), rooms[i]);
         }
+        RentByTheWheel y = Check.with(Check.THREE);
+        y.set(0, 999);
+        y.set(2, 999);
+        y.quarter(-1, -1);
+        y.undo();
+        Check.due("999 in ROOM 999", y.count(4), 999);
     }
 
     /** NOW, LEVEL, DEBTS, DRY are as ahead of it; nothing else is undone. */
@@ -340,6 +346,13 @@ public final class EdgesQuarterTest {
         Check.due("what was read", x.count(9), 1);
         Check.due("THE TEXT", x.count(12), 2);
         Check.due("THE RULE", x.lifts(0, -1), 7);
+        RentByTheWheel y = Check.with(Edge.times("011:9;", 5) + "011:9");
+        Check.day(y, "abcdef");
+        y.undo();
+        for (int i = 0; i < 6; i++) {
+            Check.due("DEBT of " + i, y.debt(i), 0);
+            Check.due("DRY of " + i, y.lodger(i, 4), 0);
+        }
     }
 
     /** house() forgets them, if it is not refused; an empty house() does not. */

@@ -6,6 +6,7 @@ public final class EdgesTreadingTest {
     public static void main(String[] args) {
         fewestJustSo();
         fewestTies();
+        anyOfSixTreads();
         fewestOverTheEnd();
         fewestQuarters();
         fewestRefused();
@@ -37,6 +38,7 @@ public final class EdgesTreadingTest {
         changedMoreAndFewer();
         changedRefused();
         lastsEnds();
+        allAlone();
         questions();
         Check.end();
     }
@@ -95,6 +97,25 @@ public final class EdgesTreadingTest {
     private static RentByTheWheel withLevel(RentByTheWheel x, int level) {
         x.set(2, level);
         return x;
+    }
+
+    /** Those told as bits, the first and the last of six too, and nobody else. */
+    private static void anyOfSixTreads() {
+        for (int who = 0; who < 6; who++) {
+            StringBuilder house = new StringBuilder();
+            for (int i = 0; i < 6; i++) {
+                house.append(i == 0 ? "" : ";").append(i == who ? "019:6" : "011:0");
+            }
+            RentByTheWheel x = Check.with(house.toString());
+            Check.rule(x, "w-3");
+            int others = 63 ^ 1 << who;
+            Check.due("fewest of all", x, x.fewest(63, 1), 1, who);
+            Check.due("fewest of it alone", x, x.fewest(1 << who, 1), 1, who);
+            Check.due("fewest of the others", x.fewest(others, 1), -2);
+            Check.due("driest of all", x, x.driest(63, 2), 0, who, who);
+            Check.due("driest of it alone", x, x.driest(1 << who, 2), 0, who, who);
+            Check.due("driest of the others", x, x.driest(others, 2), 2, -1, -1);
+        }
     }
 
     /** The next n QUARTERS go on behind the end of a DAY. */
@@ -344,6 +365,12 @@ public final class EdgesTreadingTest {
         Check.due("all of 999, and three are DRY", x, x.roomy(0, 38), 999, 3);
         x.set(2, 998);
         Check.due("998: the last one is DRY all the same, 9 less will do", x, x.roomy(0, 37), 990, 1);
+        // with 1000 nobody would be DRY, with 999 the last one is once, as with 991
+        RentByTheWheel w = Check.with("011:9;011:9;011:7");
+        Check.rule(w, "l>998");
+        w.set(0, 999);
+        w.set(2, 999);
+        Check.due("as with 999, not as with 1000", w, w.roomy(0, 40), 991, 1);
         // more than ROOM as it is: 30 are lifted, 9 wanted by each
         RentByTheWheel y = Check.with("011:9;011:9;011:9;011:0");
         y.set(0, 1);
@@ -520,6 +547,9 @@ public final class EdgesTreadingTest {
         Check.due("just 12, and 18", y, y.shares(), 30, 12, 18, 2);
         y.set(1, 4);
         Check.due("16, and 24", y, y.shares(), 40, 16, 24, 3);
+        RentByTheWheel w = Check.with("421:0");
+        w.set(1, 5);
+        Check.due("just 13", w, w.shares(), 13, 13, 1);
         RentByTheWheel z = Check.with("011:0;" + Edge.times("511:0;", 4) + "511:0");
         z.set(1, 9);
         Check.due("all but the first could not", z, z.shares(), 279, 9, 54, 54, 54, 54, 54, 62);
@@ -620,6 +650,9 @@ public final class EdgesTreadingTest {
         RentByTheWheel w = Check.with("011:2;011:1;011:1");
         w.set(2, 2);
         Check.due("of like STOREYS: nothing changes", w, w.changed(0, 2, 1), 0, 2, 2);
+        RentByTheWheel six = Check.with("011:1;" + Edge.times("111:1;", 4) + "511:5");
+        six.set(2, 5);
+        Check.due("the last of six comes first", six, six.changed(0, 5, 1), 4, 1, 5);
         // who comes to STOREY 1 takes there by its number: b ahead of c, who is DRY then
         RentByTheWheel v = Check.with("111:0;011:1;111:2;111:1");
         v.set(2, 2);
@@ -667,6 +700,20 @@ public final class EdgesTreadingTest {
         Check.due("a QUARTER later", w, w.lasts(), 10, 1);
         Check.day(w, Edge.times(".", 11));
         Check.due("behind the end of a DAY", w, w.lasts(), 11, 1);
+    }
+
+    /** Who treads in these questions treads alone: n is 1. */
+    private static void allAlone() {
+        RentByTheWheel x = one("1", "n");
+        Check.due("strongest", x, x.strongest(1), 0, 1);
+        Check.due("fewest", x, x.fewest(1, 2), 2, 0, 0);
+        Check.due("driest", x, x.driest(1, 2), 0, 0, 0);
+        Check.due("roomy", x, x.roomy(0, 3), 1, 0);
+        Check.due("bath: 1 is lifted and taken", x.bath(0, 1), -2);
+        RentByTheWheel y = one("2", "n");
+        Check.due("roomy: 1 is lifted, 2 are wanted", y, y.roomy(0, 4), 2, 2);
+        Check.day(y, Edge.times(".", 12));
+        Check.due("even: 1 is lifted by each of two QUARTERS", y, y.even(2), 1, 0, 0, 0);
     }
 
     /** Questions change nothing. */

@@ -17,6 +17,7 @@ public final class EdgesYearsTest {
         yearsOfNobody();
         mostOften();
         drawsAsInts();
+        thatOneTreads();
         oneToTwentyDays();
         yearsRefused();
         questions();
@@ -220,6 +221,18 @@ public final class EdgesYearsTest {
                 }
                 Check.due("seed " + seed + " of " + many, x, x.years(seed, 1), 0, level, -1, 0);
             }
+        }
+    }
+
+    /** That one treads, alone. */
+    private static void thatOneTreads() {
+        RentByTheWheel x = Check.with("011:0");
+        RentByTheWheel y = Check.with("011:0");
+        Check.rule(x, "1");
+        Check.rule(y, "n");
+        for (int seed = 0; seed < 5; seed++) {
+            x.years(seed, 2);
+            Check.due("one on THE WHEEL at most", y, y.years(seed, 2), 0, x.row(0), -1, 0);
         }
     }
 

@@ -17,7 +17,7 @@ public final class ModelTest {
         }
         for (int run = 0; run < 400; run++) {
             RentByTheWheel x = new RentByTheWheel();
-            Model m = Model.random(R, x, 3);
+            Model m = Model.random(R, x, 6);
             change(x, m);
             rows(x, m);
         }
@@ -351,7 +351,7 @@ public final class ModelTest {
 
     private static void rows(RentByTheWheel x, Model from) {
         int those = R.nextInt(1 << from.lodgers.size());
-        int n = 1 + R.nextInt(new int[] {12, 12, 7, 6}[Integer.bitCount(those)]);
+        int n = 1 + R.nextInt(new int[] {12, 12, 7, 6, 4, 4, 3}[Integer.bitCount(those)]);
         int fewest = 99;
         int level = -1;
         long[] few = null;
