@@ -1031,7 +1031,7 @@ public final class RentByTheWheel {
         }
 
         int wantOf(int lodger, int quarter) {
-            int digits = wantDigits[lodger];
+            int digits = has(lodger) ? wantDigits[lodger] : 0;
             return digits < 1 || quarter < 0 ? 0 : wants[lodger * QUARTERS + quarter % digits];
         }
 
@@ -1237,7 +1237,7 @@ public final class RentByTheWheel {
             for (int i = 0; i < length; i++) {
                 int c = code[i];
                 if (c < SIGN && top < stack.length) {
-                    stack[top] = c < NAME ? c : things[c - NAME];
+                    stack[top] = c < NAME || c - NAME >= things.length ? c : things[c - NAME];
                     top++;
                 } else if (c == NEGATE && top > 0) {
                     stack[top - 1] = -stack[top - 1];
@@ -1423,6 +1423,9 @@ public final class RentByTheWheel {
                 return nobodyDry ? MOST_ROOM - level : 0;
             }
             int place = i * (trial.room + 1) + level;
+            if (place < 0 || place >= costs.length) {
+                return NEVER;
+            }
             if (costs[place] == UNKNOWN) {
                 int least = costOf(i, level, NONE);
                 // treading costs something by itself: it need not be tried where nobody costs no more than that
@@ -1567,7 +1570,8 @@ public final class RentByTheWheel {
         }
 
         private int worth(int lodger, int storey) {
-            return digits[lodger * k + storey];
+            int place = lodger * k + storey;
+            return place >= 0 && place < digits.length ? digits[place] : 0;
         }
 
         void tellInto(Row row, int[] numbers) {
