@@ -11,7 +11,7 @@ import java.util.function.Predicate;
 import java.util.stream.IntStream;
 
 /**
- * The whole document read once more, call by call, without a look at the class: texts are told right by the words
+ * The whole document read once more, call by call, by other means than the class: texts are told right by the words
  * "could go on or end" alone, rules are reckoned by splitting their text, everything else by trying.
  */
 final class Whole {
